@@ -150,7 +150,7 @@ public final class NeverHalted {
         asked = new Asked();
         thought = new Now();
         watchPlan = new WatchPlan();
-        fitSearch = new FitSearch();
+        fitSearch = new FitSearch(asked, told.ofFeet);
         tourRest = new int[(1 << (PARISHES - 1)) * PARISHES];
         crossing = new int[RIVER_MOST + 1];
         inLine = new int[WALKERS_MOST];
@@ -669,8 +669,7 @@ public final class NeverHalted {
             return NONE;
         }
         asked.meet(now, told.round, walker);
-        fitSearch.begin(asked, told.ofFeet, now.hour, k, v);
-        fitSearch.search(0, now.feet[walker], now.row[walker], 0);
+        fitSearch.find(now.hour, k, v, now.feet[walker], now.row[walker]);
         return what == 0 ? fitSearch.ways : fitSearch.first;
     }
 
@@ -1030,7 +1029,7 @@ public final class NeverHalted {
                 return NONE;
             }
             for (int many = 0; many <= lines; many++) {
-                int set = leastSet(lines - 1, many, 0, least);
+                int set = leastSet(lines - 1, many, 0, least, CLOCKS * least);
                 if (set != NONE) {
                     return set;
                 }
@@ -1039,20 +1038,22 @@ public final class NeverHalted {
         }
 
         /** Lines are left out first, from the last one on, so that the first set found is the least. */
-        private int leastSet(int line, int left, int set, int least) {
-            int lack = lacking(set, least);
+        private int leastSet(int line, int left, int set, int least, int lack) {
             if (lack == 0) {
                 return set;
             }
             if (left <= 0 || line + 1 < left || lack > left * longest(line)) {
                 return NONE;
             }
-            int allBelow = (1 << (line + 1)) - 1;
-            if (lacking(set | allBelow, least) > 0) {
-                return NONE;
+            int allBelow = (1 << line) - 1;
+            if (lacking(set | allBelow, least) == 0) {
+                int without = leastSet(line - 1, left, set, least, lack);
+                if (without != NONE) {
+                    return without;
+                }
             }
-            int without = leastSet(line - 1, left, set, least);
-            return without != NONE ? without : leastSet(line - 1, left - 1, set | 1 << line, least);
+            int with = set | 1 << line;
+            return leastSet(line - 1, left - 1, with, least, lacking(with, least));
         }
 
         private int longest(int last) {
@@ -1444,44 +1445,31 @@ public final class NeverHalted {
         /** E and T at once: a times is put as soon as its right U has ended, a plus or minus as soon as its right T has. */
         private boolean readsSum() {
             int adds = TOKEN_NONE;
-            boolean hasTimes = false;
+            int joins = TOKEN_NONE;
             for (int i = 0; i < TAPE_MOST; i++) {
-                if (!readsUnit()) {
+                if (joins == TOKEN_PART) {
+                    int number = takesNumber(1, NUMBER_MOST);
+                    if (number == NONE) {
+                        return false;
+                    }
+                    law.put(CODE_PART + number);
+                } else if (!readsUnit()) {
                     return false;
                 }
-                if (hasTimes) {
+                if (joins == TOKEN_TIMES) {
                     law.put(TOKEN_TIMES);
                 }
-                if (!readsParts()) {
-                    return false;
-                }
-                int sign = token[at];
-                hasTimes = sign == TOKEN_TIMES;
-                if (!hasTimes) {
+                joins = token[at];
+                if (joins != TOKEN_TIMES && joins != TOKEN_PART) {
                     if (adds != TOKEN_NONE) {
                         law.put(adds);
                     }
-                    if (sign != TOKEN_PLUS && sign != TOKEN_MINUS) {
+                    if (joins != TOKEN_PLUS && joins != TOKEN_MINUS) {
                         return true;
                     }
-                    adds = sign;
+                    adds = joins;
                 }
                 takesToken();
-            }
-            return false;
-        }
-
-        private boolean readsParts() {
-            for (int i = 0; i < TAPE_MOST; i++) {
-                if (token[at] != TOKEN_PART) {
-                    return true;
-                }
-                takesToken();
-                int number = takesNumber(1, NUMBER_MOST);
-                if (number == NONE) {
-                    return false;
-                }
-                law.put(CODE_PART + number);
             }
             return false;
         }
@@ -1732,27 +1720,31 @@ public final class NeverHalted {
         }
     }
 
-    /** Which of some hours a walker walked. */
+    /** Which of some hours a walker walked, as the one who is asked then. */
     private static final class FitSearch {
         int ways;
         int first;
-        private Asked asked;
-        private Law law;
+        private final Asked asked;
+        private final Law law;
         private int hour;
         private int many;
         private int wanted;
 
-        void begin(Asked itsAsked, Law itsLaw, int fromHour, int hours, int feetThen) {
+        FitSearch(Asked itsAsked, Law itsLaw) {
             asked = itsAsked;
             law = itsLaw;
+        }
+
+        void find(int fromHour, int hours, int feetThen, int feet, int row) {
             hour = fromHour;
             many = hours;
             wanted = feetThen;
             ways = 0;
             first = NONE;
+            walkFrom(0, feet, row, 0);
         }
 
-        void search(int i, int feet, int row, int walked) {
+        private void walkFrom(int i, int feet, int row, int walked) {
             if (i >= many) {
                 if (feet == wanted) {
                     ways++;
@@ -1764,8 +1756,8 @@ public final class NeverHalted {
             asked.setHour(hour + i);
             int rested = eased(feet, asked.amount(law, TOKEN_EASE));
             int worn = tired(feet, asked.amount(law, TOKEN_TIRE));
-            search(i + 1, rested, 0, walked);
-            search(i + 1, worn, oneMoreInRow(row), walked | 1 << i);
+            walkFrom(i + 1, rested, 0, walked);
+            walkFrom(i + 1, worn, oneMoreInRow(row), walked | 1 << i);
         }
     }
 }
