@@ -418,15 +418,20 @@ public final class DoingTest {
         x.undo();
         x.undo();
         x.walker(0, 0);
-        x.set(0, 0, 2);
         Due.told(x, 3, "walker 0 from 0 for 24;", 1);
         x.hours(2);
+        Due.is("nothing to write", x.look(10), 1);
+        x.set(0, 0, 2);
+        x.hours(2);
+        Due.is("another book", x.book(1, 0), 3);
         Due.is("another book", x.book(1, 1), 2);
+        Due.is("another book", x.book(1, 2), 1);
         x.image(false);
         Due.is("lines", x.look(10), 3);
         for (int i = 0; i < 3; i++) {
             Due.is("HOUR", x.book(i, 0), i);
             Due.is("what", x.book(i, 1), 1);
+            Due.is("number", x.book(i, 2), 0);
         }
     }
 
