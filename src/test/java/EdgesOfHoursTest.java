@@ -26,6 +26,7 @@ public final class EdgesOfHoursTest {
         foodIsHeldAheadOfTheStone();
         goingIsAskedAhead();
         amountsAreAskedAhead();
+        eachIsAskedOfHimself();
         floodAtItsEdges();
         floodOnlyOnARiver();
         warIsDrawnAheadOfFlood();
@@ -417,6 +418,28 @@ public final class EdgesOfHoursTest {
         Due.is("tire ahead of (c) and (d)", z.of(0, 2), 0);
         z.hours(1);
         Due.is("tire ahead of (c) and (d)", z.of(0, 2), 71);
+    }
+
+    /** "feet, row, lame: his": of one HOUR each goes, tires, rests and eats by his own. */
+    private static void eachIsAskedOfHimself() {
+        NeverHalted x = goers(4);
+        x.walker(4, 1);
+        x.walker(5, 0);
+        int[] feet = {1, 20, 30, 40, 50, 60};
+        for (int w = 0; w < 6; w++) {
+            x.set(4, w, feet[w]);
+        }
+        x.set(5, 1, 1);
+        x.set(1, 0, 500);
+        Due.told(x, 0, "stay when feet=30;", 1);
+        Due.told(x, 1, "tire feet*2+lame;ease feet/10+lame;eat feet;", 3);
+        x.hours(1);
+        int[] due = {3, 61, 27, 120, 44, 54};
+        for (int w = 0; w < 6; w++) {
+            Due.is("FEET of " + w, x.of(w, 2), due[w]);
+            Due.is("ROW of " + w, x.of(w, 3), w == 2 || w > 3 ? 0 : 1);
+        }
+        Due.is("FOOD", x.look(8), 500 - 1 - 20 - 40);
     }
 
     private static NeverHalted onARiver(int flood, int state) {

@@ -43,6 +43,7 @@ public final class EdgesOfTextsTest {
         amountsUntold();
         goingUntold();
         lawValuesAtTheirEdges();
+        theLongestE();
         ownAndRiverWithoutARound();
         riverHours();
         Due.close();
@@ -244,6 +245,21 @@ public final class EdgesOfTextsTest {
         Due.no("> of less", isSo("1>2"));
         Due.no("> of the same", isSo("2>2"));
         Due.yes(">", isSo("3>2"));
+        String[] so = {"1<2", "2=2", "3>2", "(1=1)", "not 1=2"};
+        String[] notSo = {"2<1", "2=1", "2>3", "(1=2)", "not 1=1"};
+        for (int i = 0; i < so.length; i++) {
+            Due.no("not " + so[i], isSo("not " + so[i]));
+            Due.yes("not " + notSo[i], isSo("not " + notSo[i]));
+            for (int j = 0; j < so.length; j++) {
+                Due.yes(so[i] + " and " + so[j], isSo(so[i] + " and " + so[j]));
+                Due.no(so[i] + " and " + notSo[j], isSo(so[i] + " and " + notSo[j]));
+                Due.no(notSo[i] + " and " + so[j], isSo(notSo[i] + " and " + so[j]));
+                Due.yes(so[i] + " or " + so[j], isSo(so[i] + " or " + so[j]));
+                Due.yes(so[i] + " or " + notSo[j], isSo(so[i] + " or " + notSo[j]));
+                Due.yes(notSo[i] + " or " + so[j], isSo(notSo[i] + " or " + so[j]));
+                Due.no(notSo[i] + " or " + notSo[j], isSo(notSo[i] + " or " + notSo[j]));
+            }
+        }
         Due.yes("and ahead of or", isSo("1=1 or 1=1 and 1=2"));
         Due.yes("and ahead of or", isSo("1=2 and 1=1 or 1=1"));
         Due.no("( ahead of and", isSo("(1=1 or 1=1)and 1=2"));
@@ -577,6 +593,10 @@ public final class EdgesOfTextsTest {
         told(1, "eat " + "1+".repeat(197) + "1;", 1);
         told(0, "go;" + " ".repeat(397), 1);
         faulty(0, " ".repeat(399) + "x", 1, 399);
+        faulty(0, ";".repeat(400), 1, 0);
+        faulty(1, "tire" + "1*".repeat(198), 1, 400);
+        faulty(1, "eat1" + "+1".repeat(198), 1, 400);
+        told(1, "eat1" + "+1".repeat(197) + "\n;", 1);
     }
 
     /** "Ints, which wrap". */
@@ -692,6 +712,19 @@ public final class EdgesOfTextsTest {
         Due.is("leg", ask(y, 0, "leg"), 7);
     }
 
+    /** What is left over of a full tape's sum: nothing of it is lost. */
+    private static void theLongestE() {
+        NeverHalted x = oneWalker();
+        Due.told(x, 1, "eat1" + "+1".repeat(97) + "+0".repeat(100) + ";", 1);
+        Due.is("98 times one", x.of(0, 7), 98);
+        Due.told(x, 1, "eat1" + "*1".repeat(195) + "*9+9;", 1);
+        Due.is("one times one, and so on", x.of(0, 7), 18);
+        Due.told(x, 0, "stay when 1=2" + " or 1=2".repeat(55) + ";", 1);
+        Due.is("none of them is so", x.look(9), 1);
+        Due.told(x, 0, "stay when 1=2" + " or 1=2".repeat(54) + " or 1=1;", 1);
+        Due.is("the last of them is so", x.look(9), 0);
+    }
+
     private static int ask(NeverHalted x, int walker, String e) {
         Due.tell(x, 1, "tire " + e + ";");
         return x.of(walker, 5);
@@ -701,12 +734,12 @@ public final class EdgesOfTextsTest {
     private static void ownAndRiverWithoutARound() {
         NeverHalted x = oneWalker();
         x.walker(7, 0);
-        Due.is("own without a ROUND", ask(x, 0, "own"), 0);
-        Due.is("river without a ROUND", ask(x, 0, "river"), 0);
+        Due.is("own without a ROUND", ask(x, 0, "own+1"), 1);
+        Due.is("river without a ROUND", ask(x, 0, "river+1"), 1);
         Due.is("leg without a ROUND", ask(x, 0, "leg"), 0);
         Due.tell(x, 2, "stone 0 for 2 river 2 food 0;stone 7 for 1 food 0;");
         Due.is("own", ask(x, 0, "own"), 1);
-        Due.is("own", ask(x, 1, "own"), 0);
+        Due.is("own of another", ask(x, 1, "own+1"), 1);
         Due.is("river", ask(x, 1, "river"), 1);
         x.hours(1);
         Due.is("own behind the STONE", ask(x, 0, "own"), 1);

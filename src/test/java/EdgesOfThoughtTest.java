@@ -8,6 +8,7 @@ public final class EdgesOfThoughtTest {
         goesToLegAndGone();
         goesToTheGreatestFeet();
         goesBeyondTheLastHour();
+        goesAsHoursGo();
         coverOfNothing();
         coverOfEachClock();
         coverOfUnlikeWalkers();
@@ -18,6 +19,7 @@ public final class EdgesOfThoughtTest {
         watchesThatAreEnough();
         watchesTheFirstWay();
         watchesAskTire();
+        watchesOfUnlikeWalkers();
         watchesOfTheMost();
         tourThereAndBack();
         tourEachOnce();
@@ -27,6 +29,7 @@ public final class EdgesOfThoughtTest {
         meetsAllOfTheRound();
         meetsByRemainders();
         meetsTheLastHour();
+        meetsAndSeesThoughNobodyGoes();
         seesWhenOrSooner();
         seesHisOwn();
         seesEitherWay();
@@ -55,6 +58,7 @@ public final class EdgesOfThoughtTest {
         imageMoreThanOnce();
         imageTakenAnew();
         imageButTheTape();
+        imageOfTheBook();
         Due.close();
     }
 
@@ -147,6 +151,12 @@ public final class EdgesOfThoughtTest {
         x.set(4, 0, 500);
         Due.is("999 at most", x.goes(99, 4), 999);
         Due.is("nothing stays", x.of(0, 2), 500);
+        x = goers(10);
+        Due.is("of ten", x.goes(2, 4), 20);
+        x.set(4, 9, 7);
+        Due.is("of the tenth", x.goes(2, 4), 27);
+        x.set(4, 0, 8);
+        Due.is("of the first", x.goes(2, 4), 28);
     }
 
     private static void goesBeyondTheLastHour() {
@@ -160,6 +170,38 @@ public final class EdgesOfThoughtTest {
         Due.is("from now", x.goes(99, 1), 9999);
         Due.told(x, 3, "walker 0 from 15 for 2;", 1);
         Due.is("HOUR 10001", x.goes(99, 1), 10001);
+    }
+
+    /** Without draws what is thought is what is done then: FEET, ROW, FOOD, LEG and CLOCK go on in thought, too. */
+    private static void goesAsHoursGo() {
+        for (int n = 1; n <= 99; n += 7) {
+            NeverHalted x = goers(4);
+            Due.told(x, 0, "stay when feet>60 and own=0;stay when row>5;stay when food=0 and clock<9;stay when day=2 and leg=1;", 4);
+            Due.told(x, 1, "tire 6+river*9+leg;ease 4+day;eat 2;", 3);
+            Due.told(x, 2, "stone 0 for 3 food 30;stone 1 for 5 river 2 food 0;stone 3 for 2 river 2 food 9;", 3);
+            x.set(0, 0, 3);
+            x.set(1, 0, 20);
+            x.hours(2);
+            int[] thought = new int[5];
+            for (int what = 0; what < 5; what++) {
+                thought[what] = x.goes(n, what);
+            }
+            int lines = x.look(10);
+            Due.is("SHORT in " + n, thought[0], x.hours(n));
+            Due.is("LEG in " + n, thought[2], x.look(2));
+            Due.is("GONE in " + n, thought[3], x.look(3));
+            int feet = 0;
+            for (int w = 0; w < 4; w++) {
+                feet = Math.max(feet, x.of(w, 2));
+            }
+            Due.is("FEET in " + n, thought[4], feet);
+            int first = NONE;
+            for (int i = x.look(10) - 1; i >= lines; i--) {
+                boolean few = x.book(i, 1) == 1 || x.book(i, 1) == 2;
+                first = few ? x.book(i, 0) : first;
+            }
+            Due.is("the first HOUR in " + n, thought[1], first);
+        }
     }
 
     // ---- COVER ----
@@ -267,6 +309,10 @@ public final class EdgesOfThoughtTest {
         watches(x, 0);
         x.set(0, 0, 1);
         watches(x, NONE);
+        x = goers(2);
+        x.set(0, 0, 1);
+        Due.told(x, 0, "stay;", 1);
+        watches(x, 240, 5, 6);
         x = walkers(3);
         watches(x, 0, 0, 0, 0);
         Due.told(x, 1, "tire 0;", 1);
@@ -334,6 +380,31 @@ public final class EdgesOfThoughtTest {
         x.set(4, 0, 0);
         x.set(4, 1, 50);
         watches(x, 6 * (0 + 10 + 0 + 10), 5, 6);
+    }
+
+    /** "the least sum": of unlike WALKERS those who tire least, wherever they stand. */
+    private static void watchesOfUnlikeWalkers() {
+        int[][] feet = {{4, 3, 2, 1}, {1, 2, 3, 4}, {2, 9, 1, 9}, {9, 1, 9, 2}};
+        int[][] due = {{0, 0, 5, 6}, {5, 6, 0, 0}, {5, 0, 6, 0}, {0, 5, 0, 6}};
+        for (int i = 0; i < feet.length; i++) {
+            NeverHalted x = walkers(4);
+            x.set(0, 0, 1);
+            Due.told(x, 1, "tire feet;", 1);
+            for (int w = 0; w < 4; w++) {
+                x.set(4, w, feet[i][w]);
+            }
+            watches(x, 6 * 2 * 3, due[i]);
+        }
+        NeverHalted x = walkers(5);
+        int[] five = {5, 1, 4, 2, 3};
+        for (int w = 0; w < 5; w++) {
+            x.set(4, w, five[w]);
+        }
+        x.set(0, 0, 2);
+        Due.told(x, 1, "tire feet;", 1);
+        watches(x, 6 * 2 * 10, 0, 5, 5, 6, 6);
+        Due.told(x, 1, "tire feet when clock=0 or clock=18;tire 9-feet;", 2);
+        watches(x, 6 * (3 * 9 + 4 + 1), 2, 4, 5, 5, 6);
     }
 
     private static void watchesOfTheMost() {
@@ -489,6 +560,16 @@ public final class EdgesOfThoughtTest {
         Due.is("192 and 999, now", x.meets(0, 999, 0), 0);
         x.hours(1);
         Due.is("192 and 997, one later", x.meets(0, 997, 996), 192 * 997 - 1);
+    }
+
+    /** "if THE SAINT goes on each hour": no flood, and nobody who stays, is asked. */
+    private static void meetsAndSeesThoughNobodyGoes() {
+        NeverHalted x = new NeverHalted();
+        Due.told(x, 2, "stone 0 for 4 river 4 food 0;stone 1 for 6 river 6 food 0;", 2);
+        x.set(2, 0, 1000);
+        Due.is("both", x.meets(7, 5, 2), 7);
+        sees(x, 1, 9, 1, 4);
+        Due.is("no DRAW", x.look(11), 0);
     }
 
     // ---- SEES ----
@@ -1124,5 +1205,28 @@ public final class EdgesOfThoughtTest {
         x.image(false);
         Due.is("THE IMAGE has no TAPE", x.feed(0, 0, 0, 0, 0), 20);
         Due.is("fault() stays", x.fault(0), 0);
+    }
+
+    /** THE BOOK goes back, too, though other lines were written since. */
+    private static void imageOfTheBook() {
+        NeverHalted x = walkers(1);
+        x.hours(3);
+        x.image(true);
+        x.undo();
+        x.undo();
+        x.set(0, 0, 2);
+        Due.told(x, 3, "walker 0 from 0 for 24;", 1);
+        Due.told(x, 2, "stone 0 for 1 food 0;", 1);
+        x.hours(3);
+        Due.is("seven lines", x.look(10), 7);
+        Due.is("a STONE", x.book(2, 1), 0);
+        Due.is("one goes", x.book(1, 2), 1);
+        x.image(false);
+        Due.is("three lines", x.look(10), 3);
+        for (int i = 0; i < 3; i++) {
+            Due.is("HOUR", x.book(i, 0), i);
+            Due.is("nobody", x.book(i, 1), 1);
+            Due.is("no number", x.book(i, 2), 0);
+        }
     }
 }

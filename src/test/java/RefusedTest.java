@@ -476,6 +476,12 @@ public final class RefusedTest {
         for (int[] c : cannot) {
             refused("fits(" + c[0] + ", " + c[1] + ", " + c[2] + ", " + c[3] + ")", NONE, x -> x.fits(c[0], c[1], c[2], c[3]));
         }
+        refused("a way that there is", 1, x -> x.fits(0, 1, 42, 0));
+        refused("a way that there is", 1, x -> x.fits(0, 1, 42, 1));
+        int[] whats = {-1, 2, LEAST_INT, MOST_INT};
+        for (int what : whats) {
+            refused("another what of a way that there is", NONE, x -> x.fits(0, 1, 42, what));
+        }
         NeverHalted x = busy();
         x.set(4, 2, 3);
         x.set(4, 0, 992);
